@@ -266,6 +266,20 @@ public final class LightsTest {
         x.request(1, 0, 1, 2);
         x.release(5);
         Check.fails("P21 none fits", Check.STATE, () -> x.merge());
+        Opticmesh w = Mesh.with(2, 8, new int[][] {{0, 1, 5}, {0, 1, 7}});
+        w.request(0, 1, 1, 2);
+        w.request(0, 1, 1, 0);
+        Check.fails("P21 the lower one is protected", Check.STATE, () -> w.merge());
+        w.begin(2, 8);
+        w.addFibre(0, 1, 5);
+        w.addFibre(0, 1, 7);
+        w.request(0, 1, 1, 0);
+        w.request(0, 1, 1, 2);
+        Check.fails("P21 the higher one is protected", Check.STATE, () -> w.merge());
+        w.request(0, 1, 9, 2);
+        w.request(0, 1, 1, 2);
+        w.release(2);
+        Check.fails("P21 two are protected", Check.STATE, () -> w.merge());
         Opticmesh y = Mesh.with(2, 8, new int[][] {{0, 1, 5}, {0, 1, 7}});
         y.request(0, 1, 2, 0);
         y.cut(0);
@@ -351,6 +365,18 @@ public final class LightsTest {
     }
 
     private static void moveOrder() {
+        Opticmesh y = Mesh.with(2, 8, new int[][] {{0, 1, 5}, {0, 1, 6}});
+        y.request(0, 1, 10, 0);
+        y.cut(0);
+        y.request(0, 1, 10, 0);
+        y.reroute(0);
+        y.request(0, 1, 10, 0);
+        y.release(1);
+        Check.answers("P22 light 0 goes first", 0, () -> y.move());
+        Mesh.way("P22 to wavelength 0", y, 0, 0, 10);
+        Check.answers("P22 light 2 then", 2, () -> y.move());
+        Mesh.way("P22 to wavelength 1", y, 2, 0, 11);
+        Check.fails("P22 all are as low as can be", Check.STATE, () -> y.move());
         Opticmesh x = Mesh.with(2, 8, new int[][] {{0, 1, 5}, {0, 1, 6}});
         x.request(0, 1, 10, 0);
         x.request(0, 1, 10, 2);
@@ -404,6 +430,16 @@ public final class LightsTest {
         x.release(9);
         x.release(10);
         Check.fails("P22 they are gone", Check.STATE, () -> x.move());
+        Opticmesh y = Mesh.with(3, 3, new int[][] {{0, 1, 5}, {1, 2, 5}});
+        y.request(0, 1, 10, 0);
+        y.request(0, 2, 10, 0);
+        Check.fails("P22 wavelength 0 is not free on fibre 0", Check.STATE, () -> y.move());
+        y.request(2, 1, 10, 0);
+        Check.fails("P22 lights on wavelength 0", Check.STATE, () -> y.move());
+        y.release(0);
+        Check.fails("P22 wavelength 0 is not free on fibre 1", Check.STATE, () -> y.move());
+        y.release(2);
+        Check.answers("P22 wavelength 0 is free", 1, () -> y.move());
     }
 
     private static void wavelengthsNeeded() {

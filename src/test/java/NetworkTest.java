@@ -5,6 +5,7 @@ public final class NetworkTest {
         aNewObject();
         begin();
         beginForgets();
+        beginForgetsLights();
         beginOutOfRange();
         addFibre();
         addFibreOutOfRange();
@@ -92,6 +93,32 @@ public final class NetworkTest {
         Check.answers("P2 requests from 0", 0, () -> x.request(0, 1, 10, 0));
         Check.answers("P2 lights from 0", 0, () -> x.lightOf(0));
         Check.answers("P2 its units", 10, () -> x.units(0));
+    }
+
+    /** Lights from before begin are on no channel, and none of them is up, merged or moved. */
+    private static void beginForgetsLights() {
+        Opticmesh x = row(2, 4);
+        x.request(0, 1, 1, 0);
+        x.request(0, 1, 10, 0);
+        x.request(0, 1, 9, 0);
+        x.release(1);
+        x.request(0, 1, 1, 0);
+        x.begin(2, 4);
+        x.addFibre(0, 1, 10);
+        Check.answers("P2 no channel is used", 0, () -> x.load());
+        Check.same("P2 none at all", 0f, x.usage());
+        Check.answers("P2 no light needs a wavelength", 0, () -> x.wavelengthsNeeded());
+        Check.fails("P2 no light can be moved", Check.STATE, () -> x.move());
+        Check.fails("P2 no lights can be merged", Check.STATE, () -> x.merge());
+        Check.answers("P2 no light goes down", 0, () -> x.cut(0));
+        Check.answers("P2 no light goes up", 0, () -> x.repair(0));
+        Check.answers("P2 no light has room", 0, () -> x.request(0, 1, 1, 0));
+        Check.answers("P2 the new light is the first", 0, () -> x.lightOf(0));
+        Check.answers("P2 it has its own units alone", 1, () -> x.units(0));
+        Check.fails("P2 light 1 is no more", Check.INDEX, () -> x.state(1));
+        Check.fails("P2 nor are its units", Check.INDEX, () -> x.units(1));
+        Check.fails("P2 nor is its way", Check.INDEX, () -> x.channels(1, 0));
+        Check.fails("P2 nor can it be rerouted", Check.INDEX, () -> x.reroute(1));
     }
 
     private static void beginOutOfRange() {

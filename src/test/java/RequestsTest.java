@@ -14,6 +14,7 @@ public final class RequestsTest {
         ruleZeroChannelsNext();
         ruleZeroFibreThenWavelength();
         ruleZeroVisitsNoNodeTwice();
+        ruleZeroFewestConversionsOfAll();
         ruleOneLowestWavelength();
         ruleTwoShortestPair();
         ruleTwoTies();
@@ -206,6 +207,50 @@ public final class RequestsTest {
         Check.fails("P10 the ends' conversion is of no use", Check.STATE, () -> x.request(0, 2, 10, 0));
     }
 
+    /** A row of four nodes with three wavelengths, of which each fibre has only these open. */
+    private static Opticmesh rowWithOpen(int[][] open) {
+        Opticmesh x = Mesh.with(4, 3, new int[][] {{0, 1, 5}, {1, 2, 5}, {2, 3, 5}});
+        for (int fibre = 0; fibre < 3; fibre++) {
+            for (int wavelength = 0; wavelength < 3; wavelength++) {
+                x.request(fibre, fibre + 1, 10, 0);
+            }
+        }
+        for (int fibre = 0; fibre < 3; fibre++) {
+            for (int wavelength : open[fibre]) {
+                x.release(3 * fibre + wavelength);
+            }
+        }
+        x.toggleConverter(1);
+        x.toggleConverter(2);
+        return x;
+    }
+
+    private static void ruleZeroFewestConversionsOfAll() {
+        Opticmesh x = rowWithOpen(new int[][] {{1}, {0, 1}, {2}});
+        x.request(0, 3, 10, 0);
+        Mesh.way("P10 late conversion", x, 9, 0, 1, 11, 22);
+        Opticmesh y = rowWithOpen(new int[][] {{2}, {1}, {0, 1}});
+        y.request(0, 3, 10, 0);
+        Mesh.way("P10 early conversion", y, 9, 0, 2, 11, 21);
+        Opticmesh z = rowWithOpen(new int[][] {{0, 1, 2}, {1, 2}, {0, 2}});
+        z.request(0, 3, 10, 0);
+        Mesh.way("P10 no conversion, though on the highest wavelength", z, 9, 0, 2, 12, 22);
+        z.request(0, 3, 10, 0);
+        Mesh.way("P10 one conversion goes ahead of two", z, 10, 0, 1, 11, 20);
+        Opticmesh w = rowWithOpen(new int[][] {{0, 1}, {0, 1}, {2}});
+        w.request(0, 3, 10, 0);
+        Mesh.way("P10 of equal ones the lowest wavelengths", w, 9, 0, 0, 10, 22);
+        Opticmesh v = rowWithOpen(new int[][] {{0, 1}, {1, 2}, {2}});
+        v.request(0, 3, 10, 0);
+        Mesh.way("P10 the first wavelength counts most", v, 9, 0, 0, 12, 22);
+        Opticmesh u = rowWithOpen(new int[][] {{0}, {1}, {2}});
+        u.toggleConverter(2);
+        Check.fails("P10 both nodes must convert", Check.STATE, () -> u.request(0, 3, 10, 0));
+        u.toggleConverter(2);
+        Check.answers("P10 both nodes convert", 9, () -> u.request(0, 3, 10, 0));
+        Mesh.way("P10 two conversions", u, 9, 0, 0, 11, 22);
+    }
+
     private static void ruleOneLowestWavelength() {
         Opticmesh x = Mesh.with(3, 2, new int[][] {{0, 2, 5}, {0, 1, 50}, {1, 2, 50}});
         x.request(0, 2, 10, 1);
@@ -251,10 +296,22 @@ public final class RequestsTest {
         y.request(0, 1, 10, 2);
         Mesh.way("P10 way 0 is the one ahead", y, 0, 0, 10);
         Mesh.way("P10 way 1 is the one behind", y, 0, 1, 0);
-        Opticmesh z = Mesh.with(3, 1, new int[][] {{0, 1, 5}, {1, 2, 1}, {0, 2, 4}, {0, 1, 3}, {1, 2, 3}});
-        z.request(0, 2, 10, 2);
-        Mesh.way("P10 of equal pairs the first first way, way 0", z, 0, 0, 20);
-        Mesh.way("P10 of equal pairs the first first way, way 1", z, 0, 1, 30, 10);
+        // From 1 and 2 to 3 and 4 straight, lengths 3 and 7, or crosswise, lengths 4 and 6.
+        Opticmesh z = Mesh.with(6, 1, new int[][] {{0, 1, 1}, {1, 4, 2}, {1, 3, 1}, {4, 5, 1}, {3, 5, 1},
+            {0, 2, 1}, {2, 3, 4}, {2, 4, 5}});
+        z.request(0, 5, 10, 2);
+        Mesh.way("P10 of equal pairs the first first way, way 0", z, 0, 0, 0, 20, 40);
+        Mesh.way("P10 of equal pairs the first first way, way 1", z, 0, 1, 50, 70, 30);
+        Opticmesh w = Mesh.with(6, 1, new int[][] {{0, 1, 1}, {1, 4, 1}, {1, 3, 1}, {4, 5, 1}, {3, 5, 1},
+            {0, 2, 1}, {2, 3, 4}, {2, 4, 5}});
+        w.request(0, 5, 10, 2);
+        Mesh.way("P10 a pair shorter by 1, way 0", w, 0, 0, 0, 10, 30);
+        Mesh.way("P10 a pair shorter by 1, way 1", w, 0, 1, 50, 60, 40);
+        Opticmesh v = Mesh.with(6, 1, new int[][] {{0, 1, 1}, {1, 4, 3}, {1, 3, 1}, {4, 5, 1}, {3, 5, 1},
+            {0, 2, 1}, {2, 3, 2}, {2, 4, 5}});
+        v.request(0, 5, 10, 2);
+        Mesh.way("P10 shorter goes ahead of the first first way, way 0", v, 0, 0, 50, 60, 40);
+        Mesh.way("P10 shorter goes ahead of the first first way, way 1", v, 0, 1, 0, 10, 30);
     }
 
     private static void ruleTwoWithoutConversions() {
@@ -270,6 +327,12 @@ public final class RequestsTest {
         x.request(0, 2, 10, 2);
         Mesh.way("P10 way 0", x, 3, 0, 20);
         Mesh.way("P10 way 1", x, 3, 1, 0, 10);
+        Opticmesh w = Mesh.with(3, 2, new int[][] {{1, 0, 5}, {0, 2, 5}, {1, 2, 5}});
+        w.request(0, 1, 10, 0);
+        w.request(0, 2, 10, 0);
+        w.request(0, 2, 10, 0);
+        w.release(1);
+        Check.fails("P10 node 0 doesn't convert for a pair either", Check.STATE, () -> w.request(1, 2, 10, 2));
         Opticmesh y = Mesh.with(3, 2, new int[][] {{0, 1, 5}, {1, 2, 5}, {0, 2, 5}});
         y.request(0, 1, 10, 0);
         y.request(0, 2, 10, 2);
