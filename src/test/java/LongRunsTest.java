@@ -1,29 +1,33 @@
+import java.lang.reflect.InvocationTargetException;
+import java.lang.reflect.Method;
+import java.util.Arrays;
+import java.util.HashMap;
+import java.util.Map;
+
 /** Long runs of calls, made up by a fixed row of numbers, against SlowMesh. */
 public final class LongRunsTest {
 
     private static final int RUNS = 1200;
     private static final int CALLS = 512;
 
+    private static final String[] OFTEN = {
+        "addFibre", "toggleConverter", "toggleConverter", "cut", "repair", "repair", "load", "lightOn", "usage",
+        "usage", "request", "request", "request", "request", "request", "request", "newLength", "newLength",
+        "newLength", "newLength", "release", "release", "lightOf", "requests", "lights", "state", "state", "units",
+        "units", "channels", "channel", "channel", "channel", "channel", "channel", "reroute", "reroute", "reroute",
+        "merge", "move", "move", "wavelengthsNeeded", "wavelengthsNeeded"
+    };
+
+    private static final Map<String, Method> FAST = methodsOf(Opticmesh.class);
+    private static final Map<String, Method> SLOW = methodsOf(SlowMesh.class);
+
     private static long seed;
     private static int nodes;
     private static int wavelengths;
+    /** 0: begin comes often; 1: small demands, few releases; 3: few wavelengths. */
     private static int style;
 
-    private static int below(int bound) {
-        seed = seed * 6364136223846793005L + 1442695040888963407L;
-        return (int) ((seed >>> 33) % bound);
-    }
-
-    /** Mostly a number from 0 to one below the bound, now and then one beside it. */
-    private static int about(int bound) {
-        int pick = below(60);
-        if (pick == 0) {
-            return -1;
-        }
-        return pick == 1 || bound < 1 ? bound : below(bound);
-    }
-
-    public static void main(String[] args) {
+    public static void main(String[] args) throws IllegalAccessException {
         for (int run = 0; run < RUNS && Check.allRight(); run++) {
             seed = 77L + run;
             for (int warm = 0; warm < 5; warm++) {
@@ -34,179 +38,112 @@ public final class LongRunsTest {
         Check.end("LongRunsTest");
     }
 
-    private static void oneRun(int run) {
+    private static void oneRun(int run) throws IllegalAccessException {
         Opticmesh fast = new Opticmesh();
         SlowMesh slow = new SlowMesh();
         nodes = 4;
         wavelengths = 4;
         style = below(4);
+        int fibresFirst = below(15);
+        boolean beginsFirst = below(8) > 0;
         StringBuilder told = new StringBuilder();
-        int calls = 0;
-        if (below(8) > 0) {
-            calls += call(told, fast, slow, 0, run);
-        }
-        int fibres = below(15);
-        for (int fibre = 0; fibre < fibres; fibre++) {
-            calls += call(told, fast, slow, 1, run);
-        }
-        while (calls < CALLS && Check.allRight()) {
-            calls += call(told, fast, slow, pick(), run);
+        for (int calls = 0; calls < CALLS && Check.allRight(); calls++) {
+            String name = calls == 0 && beginsFirst ? "begin" : calls <= fibresFirst ? "addFibre" : pick();
+            call(told, fast, slow, name, run);
         }
         if (!Check.allRight()) {
             System.out.println(told);
         }
     }
 
-    private static int pick() {
-        int roll = below(style == 0 ? 2000 : 400);
-        if (roll == 0) {
-            return 0;
-        }
-        int[] often = {1, 2, 2, 3, 4, 4, 5, 6, 7, 8, 9, 9, 9, 9, 9, 9, 10, 10, 10, 10, 11, 11, 12, 13, 14,
-            15, 15, 16, 16, 17, 18, 18, 18, 18, 18, 19, 19, 19, 20, 21, 21, 22, 22};
-        int call = often[below(often.length)];
-        return style == 1 && call == 11 && below(2) == 0 ? 9 : call;
-    }
-
-    private static int call(StringBuilder told, Opticmesh fast, SlowMesh slow, int which, int run) {
-        int most = style == 3 ? 3 : 8;
-        int[] a = {0, 0, 0, 0};
-        switch (which) {
-            case 0 -> {
-                a[0] = below(30) == 0 ? below(12) - 1 : 2 + below(7);
-                // Slow lists of all ways stay short: many wavelengths stand in small networks.
-                int top = a[0] <= 4 ? most : a[0] <= 6 ? 3 : 2;
-                a[1] = below(30) == 0 ? below(2) * 9 : 1 + below(top);
-            }
-            case 1 -> {
-                a[0] = about(nodes);
-                a[1] = about(nodes);
-                a[2] = below(40) == 0 ? below(2) * 1001 : below(3) > 0 ? 1 + below(4) : 1 + below(1000);
-            }
-            case 2 -> a[0] = about(nodes);
-            case 3, 4 -> a[0] = about(14);
-            case 6 -> {
-                a[0] = about(slowFibres(slow));
-                a[1] = about(wavelengths);
-            }
-            case 9 -> {
-                a[0] = about(nodes);
-                a[1] = about(nodes);
-                a[2] = below(40) == 0 ? below(2) * 11 : style == 1 ? 1 + below(3) : 1 + below(10);
-                a[3] = below(40) == 0 ? -1 + below(2) * 4 : below(3);
-            }
-            case 10 -> {
-                a[0] = about(nodes);
-                a[1] = about(nodes);
-                a[2] = below(40) == 0 ? -1 + below(2) * 4 : below(3);
-            }
-            case 11, 12 -> a[0] = about(slow.requests());
-            case 15, 16, 19 -> a[0] = about(slow.lights());
-            case 17 -> {
-                a[0] = about(slow.lights());
-                a[1] = about(2);
-            }
-            case 18 -> {
-                a[0] = about(slow.lights());
-                a[1] = about(2);
-                a[2] = about(3);
-            }
-            default -> {
-            }
-        }
-        String text = "call " + which + " (" + a[0] + ", " + a[1] + ", " + a[2] + ", " + a[3] + ")";
-        String want = answer(slow, which, a);
-        String got = answer(fast, which, a);
-        if (which == 0 && want.equals("0")) {
-            nodes = a[0];
-            wavelengths = a[1];
+    private static void call(StringBuilder told, Opticmesh fast, SlowMesh slow, String name, int run)
+            throws IllegalAccessException {
+        Object[] arguments = argumentsFor(name, slow);
+        String text = name + Arrays.toString(arguments);
+        String want = answer(SLOW.get(name), slow, arguments);
+        String got = answer(FAST.get(name), fast, arguments);
+        if (name.equals("begin") && want.equals("null")) {
+            nodes = (Integer) arguments[0];
+            wavelengths = (Integer) arguments[1];
         }
         told.append(text).append(" -> ").append(want).append('\n');
         if (!want.equals(got)) {
             System.out.println("run " + run + ": " + text + " answers " + got + ", due is " + want);
         }
         Check.same("run " + run, 1, want.equals(got) ? 1 : 0);
-        return 1;
     }
 
-    private static int slowFibres(SlowMesh slow) {
-        int fibres = 0;
+    private static String answer(Method method, Object asked, Object[] arguments) throws IllegalAccessException {
         try {
-            while (fibres < 14) {
-                slow.lightOn(fibres, 0);
-                fibres++;
+            return String.valueOf(method.invoke(asked, arguments));
+        } catch (InvocationTargetException thrown) {
+            return thrown.getCause().getClass().getName();
+        }
+    }
+
+    private static Map<String, Method> methodsOf(Class<?> type) {
+        Map<String, Method> methods = new HashMap<>();
+        for (Method method : type.getDeclaredMethods()) {
+            methods.put(method.getName(), method);
+        }
+        return methods;
+    }
+
+    private static int below(int bound) {
+        seed = seed * 6364136223846793005L + 1442695040888963407L;
+        return (int) ((seed >>> 33) % bound);
+    }
+
+    /** Mostly a number from 0 to one below the bound, now and then one beside it. */
+    private static int about(int bound) {
+        int roll = below(60);
+        if (roll == 0) {
+            return -1;
+        }
+        return roll == 1 || bound < 1 ? bound : below(bound);
+    }
+
+    /** Mostly what is usual, now and then one of two numbers that are out of range. */
+    private static int orOut(int usual, int low, int high) {
+        int roll = below(80);
+        return roll == 0 ? low : roll == 1 ? high : usual;
+    }
+
+    private static String pick() {
+        if (below(style == 0 ? 400 : 2000) == 0) {
+            return "begin";
+        }
+        String name = OFTEN[below(OFTEN.length)];
+        return style == 1 && name.equals("release") && below(2) == 0 ? "request" : name;
+    }
+
+    private static Object[] argumentsFor(String name, SlowMesh slow) {
+        return switch (name) {
+            case "begin" -> {
+                int manyNodes = orOut(2 + below(7), 1, 9);
+                yield new Object[] {manyNodes, orOut(1 + below(mostWavelengths(manyNodes)), 0, 9)};
             }
-        } catch (IndexOutOfBoundsException none) {
-            return fibres;
-        }
-        return fibres;
+            case "addFibre" -> new Object[] {about(nodes), about(nodes),
+                orOut(below(3) > 0 ? 1 + below(4) : 1 + below(1000), 0, 1001)};
+            case "toggleConverter" -> new Object[] {about(nodes)};
+            case "cut", "repair" -> new Object[] {about(slow.fibreCount())};
+            case "lightOn" -> new Object[] {about(slow.fibreCount()), about(wavelengths)};
+            case "request" -> new Object[] {about(nodes), about(nodes),
+                orOut(1 + below(style == 1 ? 3 : 10), 0, 11), orOut(below(3), -1, 3)};
+            case "newLength" -> new Object[] {about(nodes), about(nodes), orOut(below(3), -1, 3)};
+            case "release", "lightOf" -> new Object[] {about(slow.requests())};
+            case "state", "units", "reroute" -> new Object[] {about(slow.lights())};
+            case "channels" -> new Object[] {about(slow.lights()), about(2)};
+            case "channel" -> new Object[] {about(slow.lights()), about(2), about(3)};
+            default -> new Object[] {};
+        };
     }
 
-    private static String answer(SlowMesh x, int which, int[] a) {
-        try {
-            return switch (which) {
-                case 0 -> {
-                    x.begin(a[0], a[1]);
-                    yield "0";
-                }
-                case 1 -> "" + x.addFibre(a[0], a[1], a[2]);
-                case 2 -> "" + x.toggleConverter(a[0]);
-                case 3 -> "" + x.cut(a[0]);
-                case 4 -> "" + x.repair(a[0]);
-                case 5 -> "" + x.load();
-                case 6 -> "" + x.lightOn(a[0], a[1]);
-                case 7, 8 -> "" + x.usage();
-                case 9 -> "" + x.request(a[0], a[1], a[2], a[3]);
-                case 10 -> "" + x.newLength(a[0], a[1], a[2]);
-                case 11 -> "" + x.release(a[0]);
-                case 12 -> "" + x.lightOf(a[0]);
-                case 13 -> "" + x.requests();
-                case 14 -> "" + x.lights();
-                case 15 -> "" + x.state(a[0]);
-                case 16 -> "" + x.units(a[0]);
-                case 17 -> "" + x.channels(a[0], a[1]);
-                case 18 -> "" + x.channel(a[0], a[1], a[2]);
-                case 19 -> "" + x.reroute(a[0]);
-                case 20 -> "" + x.merge();
-                case 21 -> "" + x.move();
-                default -> "" + x.wavelengthsNeeded();
-            };
-        } catch (RuntimeException thrown) {
-            return thrown.getClass().getName();
+    /** SlowMesh lists all ways: so that these lists stay short, many wavelengths stand in small networks. */
+    private static int mostWavelengths(int manyNodes) {
+        if (style == 3) {
+            return 3;
         }
-    }
-
-    private static String answer(Opticmesh x, int which, int[] a) {
-        try {
-            return switch (which) {
-                case 0 -> {
-                    x.begin(a[0], a[1]);
-                    yield "0";
-                }
-                case 1 -> "" + x.addFibre(a[0], a[1], a[2]);
-                case 2 -> x.toggleConverter(a[0]) ? "1" : "0";
-                case 3 -> "" + x.cut(a[0]);
-                case 4 -> "" + x.repair(a[0]);
-                case 5 -> "" + x.load();
-                case 6 -> "" + x.lightOn(a[0], a[1]);
-                case 7, 8 -> "" + x.usage();
-                case 9 -> "" + x.request(a[0], a[1], a[2], a[3]);
-                case 10 -> "" + x.newLength(a[0], a[1], a[2]);
-                case 11 -> "" + x.release(a[0]);
-                case 12 -> "" + x.lightOf(a[0]);
-                case 13 -> "" + x.requests();
-                case 14 -> "" + x.lights();
-                case 15 -> "" + x.state(a[0]);
-                case 16 -> "" + x.units(a[0]);
-                case 17 -> "" + x.channels(a[0], a[1]);
-                case 18 -> "" + x.channel(a[0], a[1], a[2]);
-                case 19 -> "" + x.reroute(a[0]);
-                case 20 -> "" + x.merge();
-                case 21 -> "" + x.move();
-                default -> "" + x.wavelengthsNeeded();
-            };
-        } catch (RuntimeException thrown) {
-            return thrown.getClass().getName();
-        }
+        return manyNodes <= 4 ? 8 : manyNodes <= 6 ? 3 : 2;
     }
 }

@@ -49,10 +49,10 @@ final class SlowMesh {
         return fibres.size() - 1;
     }
 
-    int toggleConverter(int node) {
+    boolean toggleConverter(int node) {
         argument(isNode(node));
         converters[node] = !converters[node];
-        return converters[node] ? 1 : 0;
+        return converters[node];
     }
 
     int cut(int fibre) {
@@ -79,6 +79,10 @@ final class SlowMesh {
             count += state(light) == 0 ? 1 : 0;
         }
         return count;
+    }
+
+    int fibreCount() {
+        return fibres.size();
     }
 
     int lightOn(int fibre, int wavelength) {
