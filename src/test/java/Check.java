@@ -55,6 +55,13 @@ final class Check {
         count(want == got);
     }
 
+    static void same(String what, String want, String got) {
+        if (!want.equals(got)) {
+            System.out.println(what + " answers " + got + ", due is " + want);
+        }
+        count(want.equals(got));
+    }
+
     /** The very class is asked for: the machine's own exceptions are subclasses of some of these. */
     static int kindOf(RuntimeException thrown) {
         Class<?> kind = thrown.getClass();
