@@ -15,6 +15,7 @@ public final class EmptyMeshTest {
         oneGoneLight();
         allLightsGone();
         goneByMerge();
+        lightsFromBeforeBegin();
         goneLightsComeNotBack();
         goneLightOfAProtectedPair();
         Check.end("EmptyMeshTest");
@@ -261,6 +262,35 @@ public final class EmptyMeshTest {
         Check.answers("P12 one of two that light 0 carries", 3, () -> x.release(1));
         Check.answers("P12 the other one", 0, () -> x.release(2));
         gone("P12 the lower one too", x, 0);
+    }
+
+    /** Lights 1 and 2 from before begin have room, could be merged and moved: but they are no more. */
+    private static void lightsFromBeforeBegin() {
+        Opticmesh x = Mesh.with(2, 4, new int[][] {{0, 1, 5}});
+        x.request(0, 1, 10, 0);
+        x.request(0, 1, 9, 0);
+        x.request(0, 1, 8, 0);
+        x.begin(2, 4);
+        x.addFibre(0, 1, 5);
+        x.request(0, 1, 1, 0);
+        Check.fails("P21 the new light alone", Check.STATE, () -> x.merge());
+        Check.fails("P22 the new light alone", Check.STATE, () -> x.move());
+        Check.answers("P8 the new light alone", 1, () -> x.load());
+        Check.answers("P23 the new light alone", 1, () -> x.wavelengthsNeeded());
+        Check.answers("P7 wavelength 1 is free", -1, () -> x.lightOn(0, 1));
+        Check.answers("P5 the new light goes down", 1, () -> x.cut(0));
+        Check.answers("P6 the new light comes up", 1, () -> x.repair(0));
+        Check.answers("P10 9 more", 1, () -> x.request(0, 1, 9, 0));
+        Check.answers("P10 and 1 more", 2, () -> x.request(0, 1, 1, 0));
+        Check.answers("P15 for that a second light was made", 2, () -> x.lights());
+        Check.answers("P17 with its own unit alone", 1, () -> x.units(1));
+        x.release(0);
+        x.release(1);
+        Check.answers("P22 it moves to wavelength 0", 1, () -> x.move());
+        Check.fails("P22 no other one does", Check.STATE, () -> x.move());
+        Check.answers("P12 it goes", 0, () -> x.release(2));
+        Check.fails("P22 none is left", Check.STATE, () -> x.move());
+        Check.answers("P9 no channel is used", 0, () -> Float.floatToIntBits(x.usage()));
     }
 
     private static void goneLightsComeNotBack() {

@@ -292,7 +292,12 @@ public final class FullMeshTest {
         Check.fails("P20 no light 60", Check.INDEX, () -> x.reroute(60));
         Check.answers("P8 seven of nine on fibre 0", 7, () -> x.load());
         Check.answers("P23 seven of nine on fibre 0", 7, () -> x.wavelengthsNeeded());
-        Check.answers("P20 the last one", 5, () -> x.reroute(59));
+        Check.fails("P21 nine full ones", Check.STATE, () -> x.merge());
+        Check.answers("P22 light 51 takes the free channel", 51, () -> x.move());
+        Check.answers("P19 on wavelength 0", 0, () -> x.channel(51, 0, 0));
+        x.release(51);
+        Check.answers("P20 the last one takes it then", 5, () -> x.reroute(59));
+        Check.answers("P19 on wavelength 0", 0, () -> x.channel(59, 0, 0));
         Check.answers("P12 the last one goes", 0, () -> x.release(59));
         Check.answers("P16 the last one is gone", 2, () -> x.state(59));
     }

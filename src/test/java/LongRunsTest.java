@@ -7,7 +7,7 @@ import java.util.Map;
 /** Long runs of calls, made up by a fixed row of numbers, against SlowMesh. */
 public final class LongRunsTest {
 
-    private static final int RUNS = 1200;
+    private static final int RUNS = 2400;
     private static final int CALLS = 512;
 
     private static final String[] OFTEN = {
@@ -24,7 +24,7 @@ public final class LongRunsTest {
     private static long seed;
     private static int nodes;
     private static int wavelengths;
-    /** 0: begin comes often; 1: small demands, few releases; 3: few wavelengths. */
+    /** 0: begin comes often; 1: small demands, few releases; 3: few wavelengths; 4: large networks. */
     private static int style;
 
     public static void main(String[] args) throws IllegalAccessException {
@@ -43,7 +43,7 @@ public final class LongRunsTest {
         SlowMesh slow = new SlowMesh();
         nodes = 4;
         wavelengths = 4;
-        style = below(4);
+        style = below(5);
         int fibresFirst = below(15);
         boolean beginsFirst = below(8) > 0;
         StringBuilder told = new StringBuilder();
@@ -114,13 +114,13 @@ public final class LongRunsTest {
             return "begin";
         }
         String name = OFTEN[below(OFTEN.length)];
-        return style == 1 && name.equals("release") && below(2) == 0 ? "request" : name;
+        return (style == 1 || style == 4) && name.equals("release") && below(2) == 0 ? "request" : name;
     }
 
     private static Object[] argumentsFor(String name, SlowMesh slow) {
         return switch (name) {
             case "begin" -> {
-                int manyNodes = orOut(2 + below(7), 1, 9);
+                int manyNodes = orOut(style == 4 ? 6 + below(3) : 2 + below(7), 1, 9);
                 yield new Object[] {manyNodes, orOut(1 + below(mostWavelengths(manyNodes)), 0, 9)};
             }
             case "addFibre" -> new Object[] {about(nodes), about(nodes),
@@ -139,10 +139,10 @@ public final class LongRunsTest {
         };
     }
 
-    /** SlowMesh lists all ways: so that these lists stay short, many wavelengths stand in small networks. */
+    /** SlowMesh lists all ways where these lists stay short: mostly many wavelengths stand in small networks. */
     private static int mostWavelengths(int manyNodes) {
-        if (style == 3) {
-            return 3;
+        if (style >= 3) {
+            return style == 3 ? 3 : 8;
         }
         return manyNodes <= 4 ? 8 : manyNodes <= 6 ? 3 : 2;
     }

@@ -6,6 +6,11 @@ import java.util.List;
 final class SlowMesh {
 
     record Fibre(int one, int other, int length) {
+
+        /** The node at the other end, -1 if the fibre does not end at this node. */
+        int across(int node) {
+            return node == one ? other : node == other ? one : -1;
+        }
     }
 
     static final class Light {
@@ -231,7 +236,7 @@ final class SlowMesh {
         index(light >= 0 && light < lights.size());
         Light rerouted = lights.get(light);
         possible(!rerouted.gone && !rerouted.isProtected);
-        List<Integer> way = first(allWays(rerouted.from, rerouted.to, light));
+        List<Integer> way = firstOfAll(rerouted.from, rerouted.to, light);
         possible(way != null);
         rerouted.ways.set(0, way);
         return length(way);
@@ -291,11 +296,12 @@ final class SlowMesh {
             }
         }
         int[] needed = new int[1 << ways.size()];
+        boolean[] bearOne = new boolean[needed.length];
         for (int set = 1; set < needed.length; set++) {
+            bearOne[set] = haveNoFibreTwice(ways, set);
             needed[set] = Integer.MAX_VALUE;
-            int lowest = Integer.lowestOneBit(set);
             for (int part = set; part > 0; part = (part - 1) & set) {
-                if ((part & lowest) != 0 && haveNoFibreTwice(ways, part)) {
+                if (bearOne[part]) {
                     needed[set] = Math.min(needed[set], 1 + needed[set & ~part]);
                 }
             }
@@ -320,14 +326,13 @@ final class SlowMesh {
     // ---- ways
 
     private List<List<Integer>> newWays(int from, int to, int rule) {
-        List<List<Integer>> all = allWays(from, to, -1);
         if (rule == 2) {
-            return firstPair(all);
+            return firstPair(allWays(from, to, -1, false));
         }
-        List<Integer> chosen = rule == 0 ? first(all) : null;
+        List<Integer> chosen = rule == 0 ? firstOfAll(from, to, -1) : null;
         for (int wavelength = 0; rule == 1 && wavelength < wavelengths && chosen == null; wavelength++) {
             int wanted = wavelength;
-            chosen = first(all.stream()
+            chosen = first(allWays(from, to, -1, false).stream()
                     .filter(way -> way.stream().allMatch(channel -> channel % 10 == wanted)).toList());
         }
         if (chosen == null) {
@@ -338,20 +343,31 @@ final class SlowMesh {
         return ways;
     }
 
-    private List<List<Integer>> firstPair(List<List<Integer>> all) {
-        List<List<Integer>> pure = new ArrayList<>(all.stream().filter(way -> conversions(way) == 0).toList());
+    /** In a network with too many ways for a list, a table finds the first one; in others it must find the same. */
+    private List<Integer> firstOfAll(int from, int to, int asFree) {
+        List<Integer> byTable = new WayTable(fibres, openChannels(asFree), converters).first(from, to);
+        if (nodes <= 4 || wavelengths <= (nodes <= 6 ? 3 : 2)) {
+            List<Integer> byList = first(allWays(from, to, asFree, true));
+            if (byList == null ? byTable != null : !byList.equals(byTable)) {
+                throw new AssertionError("SlowMesh doesn't agree with itself");
+            }
+        }
+        return byTable;
+    }
+
+    private List<List<Integer>> firstPair(List<List<Integer>> pure) {
         pure.sort(order());
+        int[] lengths = pure.stream().mapToInt(this::length).toArray();
+        int[] sets = pure.stream().mapToInt(SlowMesh::fibreSet).toArray();
+        int least = Integer.MAX_VALUE;
         List<List<Integer>> best = null;
-        for (int one = 0; one < pure.size(); one++) {
-            for (int other = one + 1; other < pure.size(); other++) {
-                List<Integer> ahead = pure.get(one);
-                List<Integer> behind = pure.get(other);
-                if ((fibreSet(ahead) & fibreSet(behind)) == 0
-                        && (best == null
-                            || length(ahead) + length(behind) < length(best.get(0)) + length(best.get(1)))) {
+        for (int one = 0; one < sets.length; one++) {
+            for (int other = one + 1; other < sets.length; other++) {
+                if ((sets[one] & sets[other]) == 0 && lengths[one] + lengths[other] < least) {
+                    least = lengths[one] + lengths[other];
                     best = new ArrayList<>();
-                    best.add(new ArrayList<>(ahead));
-                    best.add(new ArrayList<>(behind));
+                    best.add(new ArrayList<>(pure.get(one)));
+                    best.add(new ArrayList<>(pure.get(other)));
                 }
             }
         }
@@ -362,30 +378,35 @@ final class SlowMesh {
         return ways.stream().min(order()).map(way -> (List<Integer>) new ArrayList<>(way)).orElse(null);
     }
 
-    /** The ways from a node to another one that are usable if the channels of one light count as free. */
-    private List<List<Integer>> allWays(int from, int to, int asFree) {
-        List<List<Integer>> all = new ArrayList<>();
+    /** Which channels are usable if those of one light count as free. */
+    private boolean[] openChannels(int asFree) {
         boolean[] open = new boolean[140];
         for (int channel = 0; channel < 10 * fibres.size(); channel++) {
             int user = user(channel);
             open[channel] = channel % 10 < wavelengths && !cuts.get(channel / 10) && (user < 0 || user == asFree);
         }
-        goOn(from, to, 1 << from, new ArrayList<>(), open, all);
+        return open;
+    }
+
+    private List<List<Integer>> allWays(int from, int to, int asFree, boolean mayConvert) {
+        List<List<Integer>> all = new ArrayList<>();
+        boolean[] converts = mayConvert ? converters : new boolean[8];
+        goOn(from, to, 1 << from, new ArrayList<>(), openChannels(asFree), converts, all);
         return all;
     }
 
-    private void goOn(int node, int to, int seen, List<Integer> way, boolean[] open, List<List<Integer>> all) {
+    private void goOn(int node, int to, int seen, List<Integer> way, boolean[] open, boolean[] converts,
+            List<List<Integer>> all) {
         if (node == to) {
             all.add(new ArrayList<>(way));
             return;
         }
         for (int channel = 0; channel < 10 * fibres.size(); channel++) {
-            Fibre fibre = fibres.get(channel / 10);
-            int next = fibre.one == node ? fibre.other : fibre.other == node ? fibre.one : -1;
-            boolean fits = way.isEmpty() || converters[node] || way.get(way.size() - 1) % 10 == channel % 10;
+            int next = fibres.get(channel / 10).across(node);
+            boolean fits = way.isEmpty() || converts[node] || way.get(way.size() - 1) % 10 == channel % 10;
             if (open[channel] && next >= 0 && (seen >> next & 1) == 0 && fits) {
                 way.add(channel);
-                goOn(next, to, seen | 1 << next, way, open, all);
+                goOn(next, to, seen | 1 << next, way, open, converts, all);
                 way.remove(way.size() - 1);
             }
         }
