@@ -9,27 +9,27 @@ import java.util.TreeSet;
 public final class FaceTest {
 
     private static final String[] FACE = {
-        "void begin(int, int)",
-        "int addFibre(int, int, int)",
-        "boolean toggleConverter(int)",
-        "int cut(int)",
-        "int repair(int)",
-        "int lightOn(int, int)",
+        "void begin(int, int) throws IllegalArgumentException",
+        "int addFibre(int, int, int) throws IllegalArgumentException, IllegalStateException",
+        "boolean toggleConverter(int) throws IllegalArgumentException",
+        "int cut(int) throws IndexOutOfBoundsException, IllegalStateException",
+        "int repair(int) throws IndexOutOfBoundsException, IllegalStateException",
+        "int lightOn(int, int) throws IndexOutOfBoundsException, IllegalArgumentException",
         "int load()",
-        "float usage()",
-        "int request(int, int, int, int)",
-        "int newLength(int, int, int)",
-        "int release(int)",
-        "int lightOf(int)",
+        "float usage() throws IllegalStateException",
+        "int request(int, int, int, int) throws IllegalArgumentException, IllegalStateException",
+        "int newLength(int, int, int) throws IllegalArgumentException, IllegalStateException",
+        "int release(int) throws IndexOutOfBoundsException, IllegalStateException",
+        "int lightOf(int) throws IndexOutOfBoundsException, IllegalStateException",
         "int requests()",
         "int lights()",
-        "int state(int)",
-        "int units(int)",
-        "int channels(int, int)",
-        "int channel(int, int, int)",
-        "int reroute(int)",
-        "int merge()",
-        "int move()",
+        "int state(int) throws IndexOutOfBoundsException",
+        "int units(int) throws IndexOutOfBoundsException",
+        "int channels(int, int) throws IndexOutOfBoundsException",
+        "int channel(int, int, int) throws IndexOutOfBoundsException",
+        "int reroute(int) throws IndexOutOfBoundsException, IllegalStateException",
+        "int merge() throws IllegalStateException",
+        "int move() throws IllegalStateException",
         "int wavelengthsNeeded()",
     };
 
@@ -71,6 +71,12 @@ public final class FaceTest {
         for (Class<?> parameter : method.getParameterTypes()) {
             told.append(told.charAt(told.length() - 1) == '(' ? "" : ", ").append(parameter);
         }
-        return told.append(')').toString();
+        told.append(')');
+        String before = " throws ";
+        for (Class<?> thrown : method.getExceptionTypes()) {
+            told.append(before).append(thrown.getSimpleName());
+            before = ", ";
+        }
+        return told.toString();
     }
 }

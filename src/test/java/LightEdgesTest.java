@@ -14,6 +14,7 @@ public final class LightEdgesTest {
         mergeOfTheFirstPair();
         mergeJoinsEitherOrder();
         mergeKeepsTheLowerOnesWay();
+        mergeKeepsTheLowerOnesDirection();
         mergeOfFullAndEmpty();
         mergeAsksBothToBeUp();
         mergePassesProtectedOnes();
@@ -231,6 +232,27 @@ public final class LightEdgesTest {
         Mesh.way("P21 the longer way of the lower one", x, 0, 0, 0);
         Check.answers("P7 the shorter one is free", -1, () -> x.lightOn(1, 0));
         Check.answers("P20 reroute then", 5, () -> x.reroute(0));
+    }
+
+    /** Also when only requests of the other one are left, which named the nodes the other way round. */
+    private static void mergeKeepsTheLowerOnesDirection() {
+        Opticmesh x = Mesh.with(3, 4, new int[][] {{0, 1, 5}, {1, 2, 5}, {0, 2, 30}});
+        x.request(2, 0, 6, 0);
+        x.request(0, 2, 6, 0);
+        x.request(0, 2, 4, 0);
+        Mesh.way("P10 the other one leads from 0 to 2", x, 1, 0, 1, 11);
+        x.release(0);
+        Check.answers("P21 merge", 1, () -> x.merge());
+        Mesh.way("P21 from 2 to 0", x, 0, 0, 10, 0);
+        Check.answers("P12 its own last request goes", 6, () -> x.release(2));
+        Mesh.way("P12 from 2 to 0 still", x, 0, 0, 10, 0);
+        Check.answers("P20 reroute", 10, () -> x.reroute(0));
+        Mesh.way("P20 from 2 to 0 still", x, 0, 0, 10, 0);
+        x.cut(1);
+        Check.answers("P20 around the cut", 30, () -> x.reroute(0));
+        x.repair(1);
+        Check.answers("P20 back again", 10, () -> x.reroute(0));
+        Mesh.way("P20 from 2 to 0 again", x, 0, 0, 10, 0);
     }
 
     private static void mergeOfFullAndEmpty() {

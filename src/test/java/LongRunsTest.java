@@ -1,7 +1,5 @@
-import java.lang.reflect.InvocationTargetException;
 import java.lang.reflect.Method;
 import java.util.Arrays;
-import java.util.HashMap;
 import java.util.Map;
 
 /** Long runs of calls, made up by a fixed row of numbers, against SlowMesh. */
@@ -18,8 +16,8 @@ public final class LongRunsTest {
         "merge", "move", "move", "wavelengthsNeeded", "wavelengthsNeeded"
     };
 
-    private static final Map<String, Method> FAST = methodsOf(Opticmesh.class);
-    private static final Map<String, Method> SLOW = methodsOf(SlowMesh.class);
+    private static final Map<String, Method> FAST = ByName.methodsOf(Opticmesh.class);
+    private static final Map<String, Method> SLOW = ByName.methodsOf(SlowMesh.class);
 
     private static long seed;
     private static int nodes;
@@ -60,8 +58,8 @@ public final class LongRunsTest {
             throws IllegalAccessException {
         Object[] arguments = argumentsFor(name, slow);
         String text = name + Arrays.toString(arguments);
-        String want = answer(SLOW.get(name), slow, arguments);
-        String got = answer(FAST.get(name), fast, arguments);
+        String want = ByName.answer(SLOW.get(name), slow, arguments);
+        String got = ByName.answer(FAST.get(name), fast, arguments);
         if (name.equals("begin") && want.equals("null")) {
             nodes = (Integer) arguments[0];
             wavelengths = (Integer) arguments[1];
@@ -71,22 +69,6 @@ public final class LongRunsTest {
             System.out.println("run " + run + ": " + text + " answers " + got + ", due is " + want);
         }
         Check.same("run " + run, 1, want.equals(got) ? 1 : 0);
-    }
-
-    private static String answer(Method method, Object asked, Object[] arguments) throws IllegalAccessException {
-        try {
-            return String.valueOf(method.invoke(asked, arguments));
-        } catch (InvocationTargetException thrown) {
-            return thrown.getCause().getClass().getName();
-        }
-    }
-
-    private static Map<String, Method> methodsOf(Class<?> type) {
-        Map<String, Method> methods = new HashMap<>();
-        for (Method method : type.getDeclaredMethods()) {
-            methods.put(method.getName(), method);
-        }
-        return methods;
     }
 
     private static int below(int bound) {
